@@ -212,6 +212,12 @@ public final class PromiseTest {
         due("clean: wherever they are now", x.clean(), 8);
         x.broken(0, true);
         due("clean: none serves", x.clean(), 0);
+        DepotNight three = nightOf(0, 1, 2);
+        leaveAll(three, 1, 0);
+        due("clean: what stays is in nobody's way", three.clean(), 12);
+        three.stay();
+        leaveAll(three, 0);
+        due("clean: nothing behind the first that came", three.clean(), 12);
         DepotNight five = nightOf(0, 0, 0, 0, 0);
         due("clean: five that stay", five.clean(), 243);
         leaveAll(five, 0, 0, 0, 0, 0);
@@ -477,6 +483,13 @@ public final class PromiseTest {
         due("shunts: both are broken", x.shunts(), NONE);
         x.broken(1, false);
         leaversAre("the mended one", x, 1);
+        for (int kind = 0; kind < 4; kind++) {
+            DepotNight other = nightOf(kind, (kind + 1) % 4);
+            parkAll(other, 0, 0);
+            other.leave(kind);
+            other.broken(1, true);
+            stepsAre("a broken one of another kind", other, 11, 0);
+        }
     }
 
     private static void ready() {
