@@ -599,7 +599,7 @@ public final class DepotNight {
             met = 0;
             goal = NONE;
             meet(start, NONE, NONE);
-            for (int place = 0; place < met && goal == NONE; place++) {
+            for (int place = 0; place < MOST_POSITIONS && place < met && goal == NONE; place++) {
                 tryGoings(place);
                 tryShunts(place);
             }

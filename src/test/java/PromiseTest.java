@@ -39,47 +39,6 @@ public final class PromiseTest {
         CHECKS.due(call, got, want);
     }
 
-    /** Units of these kinds, without work. */
-    private static DepotNight nightOf(int... kinds) {
-        DepotNight x = new DepotNight();
-        for (int kind : kinds) {
-            x.unit(kind, 0, 0);
-        }
-        return x;
-    }
-
-    private static void leaveAll(DepotNight x, int... kinds) {
-        for (int kind : kinds) {
-            x.leave(kind);
-        }
-    }
-
-    private static void parkAll(DepotNight x, int... tracks) {
-        for (int track : tracks) {
-            x.park(track);
-        }
-    }
-
-    private static void lengths(DepotNight x, int first, int second, int third) {
-        x.length(0, first);
-        x.length(1, second);
-        x.length(2, third);
-    }
-
-    private static void stepsAre(String of, DepotNight x, int... steps) {
-        for (int i = 0; i < steps.length; i++) {
-            due(of + ": step(" + i + ")", x.step(i), steps[i]);
-        }
-        due(of + ": step(" + steps.length + ")", x.step(steps.length), NONE);
-    }
-
-    private static void leaversAre(String of, DepotNight x, int... units) {
-        for (int i = 0; i < units.length; i++) {
-            due(of + ": leaves(" + i + ")", x.leaves(i), units[i]);
-        }
-        due(of + ": leaves(" + units.length + ")", x.leaves(units.length), NONE);
-    }
-
     private static void newObject() {
         DepotNight x = new DepotNight();
         for (int what = 0; what < 4; what++) {
@@ -123,7 +82,7 @@ public final class PromiseTest {
     }
 
     private static void broken() {
-        DepotNight x = nightOf(0, 0);
+        DepotNight x = Nights.nightOf(0, 0);
         due("broken(0, false)", x.broken(0, false), 0);
         due("broken(0, true)", x.broken(0, true), 0);
         due("broken(0, true) again", x.broken(0, true), 1);
@@ -145,7 +104,7 @@ public final class PromiseTest {
     }
 
     private static void length() {
-        DepotNight x = nightOf(0, 0, 0);
+        DepotNight x = Nights.nightOf(0, 0, 0);
         due("length(0, 1)", x.length(0, 1), 5);
         due("length(0, 5)", x.length(0, 5), 1);
         due("length(2, 3)", x.length(2, 3), 5);
@@ -159,7 +118,7 @@ public final class PromiseTest {
             due("length(2, " + room + ")", x.length(2, room), OUTSIDE);
         }
         due("length: refused ones change nothing", x.length(2, 5), 3);
-        parkAll(x, 1, 1);
+        Nights.parkAll(x, 1, 1);
         due("length below what stands there", x.length(1, 1), 5);
         due("length: the last stays", x.at(1, 0), 1);
         due("length: the first stays", x.at(1, 1), 0);
@@ -169,7 +128,7 @@ public final class PromiseTest {
     }
 
     private static void leave() {
-        DepotNight x = nightOf(0, 1);
+        DepotNight x = Nights.nightOf(0, 1);
         int[] wrong = {-1, 4, LEAST, MOST};
         for (int kind : wrong) {
             due("leave(" + kind + ")", x.leave(kind), OUTSIDE);
@@ -186,9 +145,9 @@ public final class PromiseTest {
     }
 
     private static void stay() {
-        DepotNight x = nightOf(0, 1);
+        DepotNight x = Nights.nightOf(0, 1);
         due("stay() at first", x.stay(), 0);
-        leaveAll(x, 2, 2, 2);
+        Nights.leaveAll(x, 2, 2, 2);
         due("stay: none clean before", x.clean(), 0);
         due("stay()", x.stay(), 3);
         due("stay: nothing leaves", x.count(1), 0);
@@ -199,34 +158,34 @@ public final class PromiseTest {
     }
 
     private static void clean() {
-        DepotNight x = nightOf(0, 1);
+        DepotNight x = Nights.nightOf(0, 1);
         due("clean: nothing leaves", x.clean(), 9);
-        leaveAll(x, 0, 1);
+        Nights.leaveAll(x, 0, 1);
         due("clean: as they came", x.clean(), 6);
         x.stay();
-        leaveAll(x, 1, 0);
+        Nights.leaveAll(x, 1, 0);
         due("clean: the other way round", x.clean(), 9);
         x.length(0, 1);
         due("clean: not both on track 0", x.clean(), 8);
-        parkAll(x, 0, 1);
+        Nights.parkAll(x, 0, 1);
         due("clean: wherever they are now", x.clean(), 8);
         x.broken(0, true);
         due("clean: none serves", x.clean(), 0);
-        DepotNight three = nightOf(0, 1, 2);
-        leaveAll(three, 1, 0);
+        DepotNight three = Nights.nightOf(0, 1, 2);
+        Nights.leaveAll(three, 1, 0);
         due("clean: what stays is in nobody's way", three.clean(), 12);
         three.stay();
-        leaveAll(three, 0);
+        Nights.leaveAll(three, 0);
         due("clean: nothing behind the first that came", three.clean(), 12);
-        DepotNight five = nightOf(0, 0, 0, 0, 0);
+        DepotNight five = Nights.nightOf(0, 0, 0, 0, 0);
         due("clean: five that stay", five.clean(), 243);
-        leaveAll(five, 0, 0, 0, 0, 0);
+        Nights.leaveAll(five, 0, 0, 0, 0, 0);
         due("clean: five alike", five.clean(), 243);
     }
 
     private static void cleanByChoice() {
-        DepotNight x = nightOf(1, 0, 0);
-        leaveAll(x, 0, 1);
+        DepotNight x = Nights.nightOf(1, 0, 0);
+        Nights.leaveAll(x, 0, 1);
         due("clean: by some choice", x.clean(), 24);
         x.broken(1, true);
         due("clean: a broken one stands in the way", x.clean(), 18);
@@ -235,15 +194,15 @@ public final class PromiseTest {
         due("clean: a broken one not in the way", x.clean(), 27);
         x.broken(1, false);
         x.leave(1);
-        lengths(x, 1, 1, 1);
+        Nights.lengths(x, 1, 1, 1);
         due("clean: one on each track", x.clean(), 6);
         x.unit(3, 0, 0);
         due("clean: four do not fit", x.clean(), 0);
     }
 
     private static void parking() {
-        DepotNight x = nightOf(0, 1);
-        leaveAll(x, 0, 1);
+        DepotNight x = Nights.nightOf(0, 1);
+        Nights.leaveAll(x, 0, 1);
         int[][] rows = {{0, 1}, {0, 2}, {1, 0}, {1, 2}, {2, 0}, {2, 1}};
         for (int k = 0; k < rows.length; k++) {
             due("parking(" + k + ", 0)", x.parking(k, 0), rows[k][0]);
@@ -261,7 +220,7 @@ public final class PromiseTest {
         x.length(2, 1);
         x.unit(1, 0, 0);
         due("parking: worked out anew", x.parking(0, 2), 1);
-        DepotNight five = nightOf(0, 0, 0, 0, 0);
+        DepotNight five = Nights.nightOf(0, 0, 0, 0, 0);
         due("parking: the last of all", five.parking(242, 4), 2);
         due("parking(5, 4)", five.parking(5, 4), 2);
         due("parking(5, 3)", five.parking(5, 3), 1);
@@ -271,9 +230,9 @@ public final class PromiseTest {
     }
 
     private static void narrow() {
-        DepotNight x = nightOf(0, 0, 0);
+        DepotNight x = Nights.nightOf(0, 0, 0);
         due("narrow: all on track 0", x.narrow(), 0);
-        lengths(x, 1, 1, 3);
+        Nights.lengths(x, 1, 1, 3);
         due("narrow: all on track 2, the last", x.narrow(), 12);
         x.length(2, 2);
         due("narrow: the first with two", x.narrow(), 2);
@@ -284,27 +243,27 @@ public final class PromiseTest {
     }
 
     private static void why() {
-        DepotNight x = nightOf(0, 1, 2, 3);
-        lengths(x, 1, 1, 1);
-        leaveAll(x, 0, 0);
+        DepotNight x = Nights.nightOf(0, 1, 2, 3);
+        Nights.lengths(x, 1, 1, 1);
+        Nights.leaveAll(x, 0, 0);
         due("why: 1 ahead of 2", x.why(), 1);
         x.stay();
-        leaveAll(x, 0, 1, 2, 3);
+        Nights.leaveAll(x, 0, 1, 2, 3);
         due("why: 2 ahead of 3", x.why(), 2);
-        lengths(x, 2, 1, 1);
+        Nights.lengths(x, 2, 1, 1);
         due("why: 3, in the order in which they come", x.why(), 3);
-        lengths(x, 5, 5, 5);
+        Nights.lengths(x, 5, 5, 5);
         due("why: 3 with all room", x.why(), 3);
         x.broken(3, true);
         due("why: 1 by a broken one", x.why(), 1);
         x.broken(3, false);
         x.stay();
-        leaveAll(x, 3, 2, 1, 0);
+        Nights.leaveAll(x, 3, 2, 1, 0);
         due("why: 0", x.why(), 0);
     }
 
     private static void park() {
-        DepotNight x = nightOf(0, 0, 0);
+        DepotNight x = Nights.nightOf(0, 0, 0);
         x.length(1, 1);
         int[] unknown = {-1, 3, LEAST, MOST};
         for (int track : unknown) {
@@ -321,16 +280,16 @@ public final class PromiseTest {
         x.unit(0, 0, 0);
         due("park: one more came", x.park(0), 3);
         due("park: four", x.count(2), 4);
-        DepotNight five = nightOf(0, 0, 0, 0, 0);
+        DepotNight five = Nights.nightOf(0, 0, 0, 0, 0);
         for (int unit = 0; unit < 5; unit++) {
             due("park: five on one track", five.park(0), unit);
         }
     }
 
     private static void clear() {
-        DepotNight x = nightOf(0, 0, 0);
+        DepotNight x = Nights.nightOf(0, 0, 0);
         due("clear() at first", x.clear(), 0);
-        parkAll(x, 0, 1);
+        Nights.parkAll(x, 0, 1);
         due("clear()", x.clear(), 2);
         due("clear: none is parked", x.count(2), 0);
         due("clear: track 0 is empty", x.at(0, 0), NONE);
@@ -341,8 +300,8 @@ public final class PromiseTest {
     }
 
     private static void at() {
-        DepotNight x = nightOf(0, 0, 0, 0);
-        parkAll(x, 0, 1, 0, 0);
+        DepotNight x = Nights.nightOf(0, 0, 0, 0);
+        Nights.parkAll(x, 0, 1, 0, 0);
         due("at: the last", x.at(0, 0), 3);
         due("at: ahead of it", x.at(0, 1), 2);
         due("at: the first", x.at(0, 2), 0);
@@ -360,66 +319,66 @@ public final class PromiseTest {
     }
 
     private static void shunts() {
-        DepotNight x = nightOf(0, 1, 2);
+        DepotNight x = Nights.nightOf(0, 1, 2);
         due("shunts: nothing leaves", x.shunts(), 0);
         x.leave(0);
         due("shunts: none is parked", x.shunts(), NONE);
-        parkAll(x, 0);
+        Nights.parkAll(x, 0);
         due("shunts: what is not parked is not in the way", x.shunts(), 0);
-        parkAll(x, 0, 0);
+        Nights.parkAll(x, 0, 0);
         due("shunts: two in the way", x.shunts(), 2);
-        leaveAll(x, 1, 2);
+        Nights.leaveAll(x, 1, 2);
         due("shunts: the others behind it", x.shunts(), 2);
         x.leave(3);
         due("shunts: no such kind", x.shunts(), NONE);
         x.stay();
-        leaveAll(x, 2, 1, 0);
+        Nights.leaveAll(x, 2, 1, 0);
         due("shunts: as they stand", x.shunts(), 0);
         due("shunts: nothing has left", x.count(2), 3);
         due("shunts: all stand as before", x.at(0, 0), 2);
         x.clear();
-        parkAll(x, 0, 1, 2);
+        Nights.parkAll(x, 0, 1, 2);
         due("shunts: one on each track", x.shunts(), 0);
-        DepotNight six = nightOf(0, 1, 2, 1, 3);
-        parkAll(six, 0, 0, 1, 0, 0);
-        lengths(six, 1, 5, 1);
-        leaveAll(six, 0, 2, 3);
+        DepotNight six = Nights.nightOf(0, 1, 2, 1, 3);
+        Nights.parkAll(six, 0, 0, 1, 0, 0);
+        Nights.lengths(six, 1, 5, 1);
+        Nights.leaveAll(six, 0, 2, 3);
         due("shunts: six", six.shunts(), 6);
     }
 
     private static void shuntsWithoutRoom() {
-        DepotNight x = nightOf(0, 1, 2, 3);
-        parkAll(x, 0, 0, 1, 2);
+        DepotNight x = Nights.nightOf(0, 1, 2, 3);
+        Nights.parkAll(x, 0, 0, 1, 2);
         x.leave(0);
         due("shunts: with room", x.shunts(), 1);
-        lengths(x, 5, 1, 1);
+        Nights.lengths(x, 5, 1, 1);
         due("shunts: without room", x.shunts(), NONE);
         due("shunts: no step of no run", x.step(0), NONE);
         due("shunts: no leaver of no run", x.leaves(0), NONE);
         due("shunts: late of no run", x.late(0, 0), NOT);
-        lengths(x, 1, 1, 2);
+        Nights.lengths(x, 1, 1, 2);
         due("shunts: off a track that is too full", x.shunts(), 1);
         x.stay();
-        leaveAll(x, 3, 0);
-        lengths(x, 1, 1, 1);
+        Nights.leaveAll(x, 3, 0);
+        Nights.lengths(x, 1, 1, 1);
         due("shunts: room by a going off", x.shunts(), 1);
-        stepsAre("room by a going off", x, 2, 12, 0);
+        CHECKS.stepsAre("room by a going off", x, 2, 12, 0);
     }
 
     private static void step() {
-        DepotNight x = nightOf(0, 1, 2);
-        parkAll(x, 0, 0, 0);
-        leaveAll(x, 0, 1, 2);
-        stepsAre("0, 1, 2", x, 11, 11, 0, 1, 1);
-        leaversAre("0, 1, 2", x, 0, 1, 2);
+        DepotNight x = Nights.nightOf(0, 1, 2);
+        Nights.parkAll(x, 0, 0, 0);
+        Nights.leaveAll(x, 0, 1, 2);
+        CHECKS.stepsAre("0, 1, 2", x, 11, 11, 0, 1, 1);
+        CHECKS.leaversAre("0, 1, 2", x, 0, 1, 2);
         x.stay();
-        leaveAll(x, 0, 2, 1);
-        stepsAre("0, 2, 1", x, 11, 12, 0, 1, 2);
-        leaversAre("0, 2, 1", x, 0, 2, 1);
+        Nights.leaveAll(x, 0, 2, 1);
+        CHECKS.stepsAre("0, 2, 1", x, 11, 12, 0, 1, 2);
+        CHECKS.leaversAre("0, 2, 1", x, 0, 2, 1);
         x.stay();
-        leaveAll(x, 0, 1, 2);
-        lengths(x, 5, 1, 1);
-        stepsAre("short tracks", x, 11, 12, 0, 2, 1);
+        Nights.leaveAll(x, 0, 1, 2);
+        Nights.lengths(x, 5, 1, 1);
+        CHECKS.stepsAre("short tracks", x, 11, 12, 0, 2, 1);
         due("step: i below 0", x.step(-1), OUTSIDE);
         due("step: i far below 0", x.step(LEAST), OUTSIDE);
         due("step: i far above", x.step(MOST), NONE);
@@ -429,39 +388,39 @@ public final class PromiseTest {
     }
 
     private static void stepInOrder() {
-        DepotNight x = nightOf(0, 1, 2);
-        parkAll(x, 0, 1, 1);
-        leaveAll(x, 0, 1);
-        stepsAre("a going off ahead of a shunt", x, 0, 13, 1);
-        DepotNight lesser = nightOf(0, 0);
-        parkAll(lesser, 2, 1);
+        DepotNight x = Nights.nightOf(0, 1, 2);
+        Nights.parkAll(x, 0, 1, 1);
+        Nights.leaveAll(x, 0, 1);
+        CHECKS.stepsAre("a going off ahead of a shunt", x, 0, 13, 1);
+        DepotNight lesser = Nights.nightOf(0, 0);
+        Nights.parkAll(lesser, 2, 1);
         lesser.leave(0);
-        stepsAre("the lesser track", lesser, 1);
-        leaversAre("the lesser track", lesser, 1);
-        DepotNight choice = nightOf(1, 0, 0);
-        parkAll(choice, 1, 1, 0);
-        leaveAll(choice, 0, 1);
-        stepsAre("fewest shunts ahead of the lesser track", choice, 1, 1);
-        leaversAre("fewest shunts ahead of the lesser track", choice, 1, 0);
-        DepotNight from = nightOf(0, 1, 0, 1);
-        parkAll(from, 1, 1, 2, 2);
+        CHECKS.stepsAre("the lesser track", lesser, 1);
+        CHECKS.leaversAre("the lesser track", lesser, 1);
+        DepotNight choice = Nights.nightOf(1, 0, 0);
+        Nights.parkAll(choice, 1, 1, 0);
+        Nights.leaveAll(choice, 0, 1);
+        CHECKS.stepsAre("fewest shunts ahead of the lesser track", choice, 1, 1);
+        CHECKS.leaversAre("fewest shunts ahead of the lesser track", choice, 1, 0);
+        DepotNight from = Nights.nightOf(0, 1, 0, 1);
+        Nights.parkAll(from, 1, 1, 2, 2);
         from.leave(0);
-        stepsAre("the lesser from which", from, 13, 1);
-        leaversAre("the lesser from which", from, 0);
+        CHECKS.stepsAre("the lesser from which", from, 13, 1);
+        CHECKS.leaversAre("the lesser from which", from, 0);
         from.length(0, 1);
-        leaveAll(from, 0);
-        stepsAre("the lesser to which", from, 13, 1, 17, 2);
-        DepotNight last = nightOf(0, 1);
-        parkAll(last, 2, 2);
+        Nights.leaveAll(from, 0);
+        CHECKS.stepsAre("the lesser to which", from, 13, 1, 17, 2);
+        DepotNight last = Nights.nightOf(0, 1);
+        Nights.parkAll(last, 2, 2);
         last.leave(0);
-        stepsAre("from the last track", last, 16, 2);
+        CHECKS.stepsAre("from the last track", last, 16, 2);
     }
 
     private static void leaves() {
-        DepotNight x = nightOf(0, 0, 1);
-        parkAll(x, 0, 1, 1);
-        leaveAll(x, 0, 1, 0);
-        leaversAre("two alike", x, 0, 2, 1);
+        DepotNight x = Nights.nightOf(0, 0, 1);
+        Nights.parkAll(x, 0, 1, 1);
+        Nights.leaveAll(x, 0, 1, 0);
+        CHECKS.leaversAre("two alike", x, 0, 2, 1);
         due("leaves: i below 0", x.leaves(-1), OUTSIDE);
         due("leaves: i far below 0", x.leaves(LEAST), OUTSIDE);
         due("leaves: i far above", x.leaves(MOST), NONE);
@@ -471,24 +430,24 @@ public final class PromiseTest {
     }
 
     private static void brokenInTheYard() {
-        DepotNight x = nightOf(0, 0);
-        parkAll(x, 0, 0);
+        DepotNight x = Nights.nightOf(0, 0);
+        Nights.parkAll(x, 0, 0);
         x.leave(0);
-        leaversAre("the last one", x, 1);
+        CHECKS.leaversAre("the last one", x, 1);
         x.broken(1, true);
         due("shunts: a broken one in the way", x.shunts(), 1);
-        stepsAre("a broken one in the way", x, 11, 0);
-        leaversAre("the one in its place", x, 0);
+        CHECKS.stepsAre("a broken one in the way", x, 11, 0);
+        CHECKS.leaversAre("the one in its place", x, 0);
         x.broken(0, true);
         due("shunts: both are broken", x.shunts(), NONE);
         x.broken(1, false);
-        leaversAre("the mended one", x, 1);
+        CHECKS.leaversAre("the mended one", x, 1);
         for (int kind = 0; kind < 4; kind++) {
-            DepotNight other = nightOf(kind, (kind + 1) % 4);
-            parkAll(other, 0, 0);
+            DepotNight other = Nights.nightOf(kind, (kind + 1) % 4);
+            Nights.parkAll(other, 0, 0);
             other.leave(kind);
             other.broken(1, true);
-            stepsAre("a broken one of another kind", other, 11, 0);
+            CHECKS.stepsAre("a broken one of another kind", other, 11, 0);
         }
     }
 
@@ -528,7 +487,7 @@ public final class PromiseTest {
             five.unit(0, 60, 60);
         }
         due("ends: as long as can be", five.ends(), 360);
-        due("ends: without work", nightOf(0, 0, 0).ends(), 0);
+        due("ends: without work", Nights.nightOf(0, 0, 0).ends(), 0);
     }
 
     private static void best() {
@@ -559,10 +518,10 @@ public final class PromiseTest {
         DepotNight x = new DepotNight();
         x.unit(0, 30, 10);
         x.unit(1, 10, 30);
-        leaveAll(x, 1, 0);
+        Nights.leaveAll(x, 1, 0);
         due("late: no run", x.late(0, 0), NOT);
         due("late: OUTSIDE ahead of NOT", x.late(2, 0), OUTSIDE);
-        parkAll(x, 0, 1);
+        Nights.parkAll(x, 0, 1);
         int[][] byNumbers = {{0, 3}, {29, 3}, {30, 2}, {69, 2}, {70, 0}, {1000, 0}};
         for (int[] row : byNumbers) {
             due("late(0, " + row[0] + ")", x.late(0, row[0]), row[1]);
@@ -585,9 +544,9 @@ public final class PromiseTest {
     }
 
     private static void count() {
-        DepotNight x = nightOf(0, 1, 2);
-        leaveAll(x, 0, 1);
-        parkAll(x, 0);
+        DepotNight x = Nights.nightOf(0, 1, 2);
+        Nights.leaveAll(x, 0, 1);
+        Nights.parkAll(x, 0);
         due("count(0)", x.count(0), 3);
         due("count(1)", x.count(1), 2);
         due("count(2)", x.count(2), 1);
@@ -601,12 +560,12 @@ public final class PromiseTest {
     }
 
     private static void objectsAreApart() {
-        DepotNight one = nightOf(0, 1);
-        DepotNight other = nightOf(1, 0);
-        leaveAll(one, 0);
-        leaveAll(other, 0);
-        parkAll(one, 0, 0);
-        parkAll(other, 1, 1);
+        DepotNight one = Nights.nightOf(0, 1);
+        DepotNight other = Nights.nightOf(1, 0);
+        Nights.leaveAll(one, 0);
+        Nights.leaveAll(other, 0);
+        Nights.parkAll(one, 0, 0);
+        Nights.parkAll(other, 1, 1);
         due("apart: one", one.shunts(), 1);
         due("apart: other", other.shunts(), 0);
         due("apart: one still", one.step(0), 11);
